@@ -42,9 +42,8 @@ public final class Wordnet {
     private int knocks;
 
     public Wordnet() {
-        Kinds kinds = new Kinds();
         for (int k = 0; k < NETS; k++) {
-            nets[k] = new Net(kinds);
+            nets[k] = new Net();
         }
     }
 
@@ -83,10 +82,10 @@ public final class Wordnet {
         Shelf shelf = shelfOf(net);
         demandCode(code);
         demandPlaces(gaps);
+        int ways = Code.waysToFill(code, gaps);
         int added = 0;
-        int end = Code.endOfLength(code);
-        for (int other = Code.firstOfLength(code); other < end; other++) {
-            if (Code.isSameButGaps(other, code, gaps) && shelf.add(other)) {
+        for (int nth = 0; nth < ways && !shelf.isFull(); nth++) {
+            if (shelf.add(Code.filled(code, gaps, nth))) {
                 added++;
             }
         }
@@ -631,7 +630,7 @@ public final class Wordnet {
         }
         for (int net = 0; net < NETS; net++) {
             Graph graph = netOf(net).graph();
-            boolean areStatesSound = graph.states(true) == graph.unlikeEnds();
+            boolean areStatesSound = graph.states(true) == graph.unlikeEnds(shelfOf(net));
             boolean isPackSound = isReadBack(net, false) && isReadBack(net, true);
             if (!areStatesSound || !isPackSound || !areRanksSound(net) || !areEditsSound(net)) {
                 return false;
@@ -788,7 +787,9 @@ public final class Wordnet {
     }
 
     private static void demandNotBelowZero(int number) {
-        demand(number, 0, Integer.MAX_VALUE);
+        if (number < 0) {
+            throw new IllegalArgumentException("a number is below zero");
+        }
     }
 
     private static void demandChoice(int how, int code, int extra) {
@@ -848,26 +849,21 @@ public final class Wordnet {
     private static final class Code {
         static int length(int code) {
             int many = 0;
-            for (int k = 1; k <= LONGEST; k++) {
-                if (code >= FIRST_CODES[k]) {
-                    many = k;
-                }
+            while (many < LONGEST && code >= FIRST_CODES[many + 1]) {
+                many++;
             }
             return many;
         }
 
-        static int firstOfLength(int code) {
-            return FIRST_CODES[length(code)];
-        }
-
-        static int endOfLength(int code) {
-            return FIRST_CODES[length(code) + 1];
+        /** The LETTERS of a word, two bits each, the last one in the lowest bits. */
+        static int bits(int code) {
+            return code - FIRST_CODES[length(code)];
         }
 
         /** How many words are ahead of this one, of all that there can be: so ORDER is that of seats. */
         static int seat(int code) {
             int many = length(code);
-            int bits = code - FIRST_CODES[many];
+            int bits = bits(code);
             int seat = 0;
             for (int k = 1; k <= many; k++) {
                 int letter = bits >> 2 * (many - k) & 3;
@@ -894,8 +890,7 @@ public final class Wordnet {
         }
 
         static int letterAt(int code, int place) {
-            int many = length(code);
-            return code - FIRST_CODES[many] >> 2 * (many - 1 - place) & 3;
+            return bits(code) >> 2 * (length(code) - 1 - place) & 3;
         }
 
         static int start(int code, int many) {
@@ -911,8 +906,7 @@ public final class Wordnet {
             if (many < 0 || many > whole) {
                 return code;
             }
-            int bits = code - FIRST_CODES[whole];
-            return FIRST_CODES[many] + (bits & (1 << 2 * many) - 1);
+            return FIRST_CODES[many] + (bits(code) & (1 << 2 * many) - 1);
         }
 
         static int turned(int code) {
@@ -951,14 +945,37 @@ public final class Wordnet {
             if (many != length(other)) {
                 return false;
             }
-            int unlike = code - FIRST_CODES[many] ^ other - FIRST_CODES[many];
+            int unlike = bits(code) ^ bits(other);
             for (int place = 0; place < many; place++) {
-                boolean isGap = (gaps >> place & 1) == 1;
-                if (!isGap && (unlike >> 2 * (many - 1 - place) & 3) != 0) {
+                if (!isIn(gaps, place) && (unlike >> 2 * (many - 1 - place) & 3) != 0) {
                     return false;
                 }
             }
             return true;
+        }
+
+        /** How many words there can be that are the same as this one but at the gaps. */
+        static int waysToFill(int code, int gaps) {
+            int many = length(code);
+            int ways = 1;
+            for (int place = 0; place < many; place++) {
+                ways *= isIn(gaps, place) ? LETTERS : 1;
+            }
+            return ways;
+        }
+
+        /** The one of these words that has so many others of them ahead: gaps count up like digits. */
+        static int filled(int code, int gaps, int nth) {
+            int many = length(code);
+            int bits = bits(code);
+            int rest = nth;
+            for (int shift = 0; shift < 2 * many; shift += 2) {
+                if (isIn(gaps, many - 1 - shift / 2)) {
+                    bits = bits & ~(3 << shift) | (rest & 3) << shift;
+                    rest = rest >> 2;
+                }
+            }
+            return FIRST_CODES[many] + bits;
         }
 
         static char glyph(int letter) {
@@ -973,15 +990,17 @@ public final class Wordnet {
         int between(int code, int other) {
             int many = Code.length(code);
             int across = Code.length(other);
+            int down = Code.bits(code);
+            int along = Code.bits(other);
             for (int k = 0; k <= across; k++) {
                 row[k] = k;
             }
             for (int i = 1; i <= many; i++) {
-                int letter = Code.letterAt(code, i - 1);
+                int letter = down >> 2 * (many - i) & 3;
                 int diagonal = row[0];
                 row[0] = i;
                 for (int k = 1; k <= across; k++) {
-                    int change = diagonal + (letter == Code.letterAt(other, k - 1) ? 0 : 1);
+                    int change = diagonal + (letter == (along >> 2 * (across - k) & 3) ? 0 : 1);
                     diagonal = row[k];
                     row[k] = Math.min(change, Math.min(row[k], row[k - 1]) + 1);
                 }
@@ -1187,12 +1206,8 @@ public final class Wordnet {
     /** A shelf of words with its graph, which is made anew only when it is asked for and old. */
     private static final class Net {
         private final Shelf shelf = new Shelf();
-        private final Graph graph;
+        private final Graph graph = new Graph();
         private boolean isLeast;
-
-        Net(Kinds kinds) {
-            graph = new Graph(shelf, kinds);
-        }
 
         Shelf shelf() {
             return shelf;
@@ -1207,8 +1222,8 @@ public final class Wordnet {
         }
 
         Graph graph() {
-            if (graph.isOld()) {
-                graph.renew();
+            if (graph.isOld(shelf)) {
+                graph.renew(shelf);
             }
             return graph;
         }
@@ -1220,15 +1235,14 @@ public final class Wordnet {
 
     /**
      * The BEGINNINGS of a net, as nodes by rising CODES: that is how LOOSE STATES are numbered, and by
-     * the first nodes of theirs the LEAST ones too. The children of a node stand in a row.
+     * the first nodes of theirs the LEAST ones too.
      */
     private static final class Graph {
-        private final Shelf shelf;
-        private final Kinds kinds;
+        private final Kinds kinds = new Kinds();
         private final int[] codes = new int[BEGINNINGS];
         private final boolean[] marks = new boolean[BEGINNINGS];
-        private final int[] letterSets = new int[BEGINNINGS];
-        private final int[] firstChildren = new int[BEGINNINGS];
+        /** For each node and LETTER the node of the BEGINNING with that LETTER behind, or NONE. */
+        private final int[] children = new int[BEGINNINGS * LETTERS];
         /** The LEAST STATE of each node, and the first node of each LEAST STATE. */
         private final int[] leastOf = new int[BEGINNINGS];
         private final int[] firstNodes = new int[BEGINNINGS];
@@ -1236,20 +1250,15 @@ public final class Wordnet {
         private int leastStates;
         private int changesSeen = NONE;
 
-        Graph(Shelf shelf, Kinds kinds) {
-            this.shelf = shelf;
-            this.kinds = kinds;
-        }
-
-        boolean isOld() {
+        boolean isOld(Shelf shelf) {
             return changesSeen != shelf.changes();
         }
 
-        void renew() {
+        void renew(Shelf shelf) {
             held = 0;
             addNode(0, shelf.codeAt(0) == 0);
             for (int many = 1; many <= LONGEST; many++) {
-                addBeginnings(many);
+                addBeginnings(shelf, many);
             }
             linkChildren();
             joinAlike();
@@ -1261,7 +1270,9 @@ public final class Wordnet {
             if (held < BEGINNINGS) {
                 codes[held] = code;
                 marks[held] = isWord;
-                letterSets[held] = 0;
+                for (int letter = 0; letter < LETTERS; letter++) {
+                    children[held * LETTERS + letter] = NONE;
+                }
                 held++;
             }
         }
@@ -1270,7 +1281,7 @@ public final class Wordnet {
          * Words by ORDER have their BEGINNINGS of one length by ORDER too, so like ones are neighbours;
          * one that is a word itself comes from that word first.
          */
-        private void addBeginnings(int many) {
+        private void addBeginnings(Shelf shelf, int many) {
             int before = NONE;
             for (int k = 0; k < shelf.held(); k++) {
                 int code = shelf.codeAt(k);
@@ -1282,6 +1293,7 @@ public final class Wordnet {
             }
         }
 
+        /** Nodes stand by rising CODES, so their parents do as well, and one way along is enough. */
         private void linkChildren() {
             int parent = 0;
             for (int node = 1; node < held; node++) {
@@ -1289,10 +1301,7 @@ public final class Wordnet {
                 while (parent < node && codes[parent] != code) {
                     parent++;
                 }
-                if (letterSets[parent] == 0) {
-                    firstChildren[parent] = node;
-                }
-                letterSets[parent] |= 1 << Code.lastLetter(codes[node]);
+                children[parent * LETTERS + Code.lastLetter(codes[node])] = node;
             }
         }
 
@@ -1313,7 +1322,7 @@ public final class Wordnet {
         private long keyOf(int node) {
             long key = marks[node] ? 1 : 0;
             for (int letter = 0; letter < LETTERS; letter++) {
-                int child = childOf(node, letter);
+                int child = children[node * LETTERS + letter];
                 key = key * 1024 + (child == NONE ? 0 : leastOf[child] + 1);
             }
             return key;
@@ -1335,12 +1344,10 @@ public final class Wordnet {
         }
 
         private int childOf(int node, int letter) {
-            if (node < 0 || node >= held || (letterSets[node] >> letter & 1) == 0) {
+            if (node < 0 || node >= held || letter < 0 || letter >= LETTERS) {
                 return NONE;
             }
-            int smaller = letterSets[node] & (1 << letter) - 1;
-            int child = firstChildren[node] + Integer.bitCount(smaller);
-            return child < held ? child : NONE;
+            return children[node * LETTERS + letter];
         }
 
         int states(boolean isLeast) {
@@ -1394,23 +1401,23 @@ public final class Wordnet {
         }
 
         /** Counts the unlike sets of ENDS by the words alone, to have it apart from the LEAST STATES. */
-        int unlikeEnds() {
+        int unlikeEnds(Shelf shelf) {
             kinds.empty();
             int many = 0;
             for (int node = 0; node < held; node++) {
-                if (hasNewEnds(node)) {
+                if (hasNewEnds(shelf, node)) {
                     many++;
                 }
             }
             return many;
         }
 
-        private boolean hasNewEnds(int node) {
-            long print = printOfEnds(codes[node]);
+        private boolean hasNewEnds(Shelf shelf, int node) {
+            long print = printOfEnds(shelf, codes[node]);
             int kind = kinds.first(print);
             for (int k = 0; k < node && kind != NONE; k++) {
                 int owner = kinds.ownerOf(kind);
-                if (owner >= 0 && owner < node && haveSameEnds(codes[owner], codes[node])) {
+                if (owner >= 0 && owner < node && haveSameEnds(shelf, codes[owner], codes[node])) {
                     return false;
                 }
                 kind = kinds.after(kind);
@@ -1420,7 +1427,7 @@ public final class Wordnet {
         }
 
         /** A number that is the same for the same ENDS, and seldom for others. */
-        private long printOfEnds(int code) {
+        private static long printOfEnds(Shelf shelf, int code) {
             int length = Code.length(code);
             int from = shelf.ahead(Code.seat(code));
             int many = shelf.starting(code);
@@ -1432,7 +1439,7 @@ public final class Wordnet {
             return print;
         }
 
-        private boolean haveSameEnds(int code, int other) {
+        private static boolean haveSameEnds(Shelf shelf, int code, int other) {
             int many = shelf.starting(code);
             if (many != shelf.starting(other)) {
                 return false;
@@ -1580,24 +1587,24 @@ public final class Wordnet {
                 return OUT_OF_PLACE - place;
             }
             shelf.empty();
-            int many = wordsFrom(0, 0, 0, shelf);
+            int many = wordsFrom(this, shelf, 0, 0, 0);
             return many > WORDS ? TOO_MANY : many;
         }
 
         /** The depth is that of the text, and one of 7 LETTERS ends it all: so it ends for loops too. */
-        private int wordsFrom(int state, int code, int depth, Shelf shelf) {
+        private static int wordsFrom(Pack pack, Shelf shelf, int state, int code, int depth) {
             if (depth > LONGEST) {
                 return TOO_LONG;
             }
             int many = 0;
-            if (numberAt(state * NUMBERS_OF_STATE) == 1) {
+            if (pack.numberAt(state * NUMBERS_OF_STATE) == 1) {
                 shelf.add(code);
                 many++;
             }
             for (int letter = 0; letter < LETTERS; letter++) {
-                int further = numberAt(state * NUMBERS_OF_STATE + 1 + letter);
+                int further = pack.numberAt(state * NUMBERS_OF_STATE + 1 + letter);
                 if (further != NONE) {
-                    int more = wordsFrom(further, Code.longer(code, letter), depth + 1, shelf);
+                    int more = wordsFrom(pack, shelf, further, Code.longer(code, letter), depth + 1);
                     if (more < 0) {
                         return more;
                     }
