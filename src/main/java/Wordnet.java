@@ -855,15 +855,10 @@ public final class Wordnet {
             return many;
         }
 
-        /** The LETTERS of a word, two bits each, the last one in the lowest bits. */
-        static int bits(int code) {
-            return code - FIRST_CODES[length(code)];
-        }
-
         /** How many words are ahead of this one, of all that there can be: so ORDER is that of seats. */
         static int seat(int code) {
             int many = length(code);
-            int bits = bits(code);
+            int bits = code - FIRST_CODES[many];
             int seat = 0;
             for (int k = 1; k <= many; k++) {
                 int letter = bits >> 2 * (many - k) & 3;
@@ -890,7 +885,8 @@ public final class Wordnet {
         }
 
         static int letterAt(int code, int place) {
-            return bits(code) >> 2 * (length(code) - 1 - place) & 3;
+            int many = length(code);
+            return code - FIRST_CODES[many] >> 2 * (many - 1 - place) & 3;
         }
 
         static int start(int code, int many) {
@@ -906,7 +902,7 @@ public final class Wordnet {
             if (many < 0 || many > whole) {
                 return code;
             }
-            return FIRST_CODES[many] + (bits(code) & (1 << 2 * many) - 1);
+            return FIRST_CODES[many] + (code - FIRST_CODES[whole] & (1 << 2 * many) - 1);
         }
 
         static int turned(int code) {
@@ -926,7 +922,9 @@ public final class Wordnet {
 
         static boolean isTail(int tail, int code) {
             int many = length(tail);
-            return many <= length(code) && tail(code, many) == tail;
+            int whole = length(code);
+            int unlike = code - FIRST_CODES[whole] ^ tail - FIRST_CODES[many];
+            return many <= whole && (unlike & (1 << 2 * many) - 1) == 0;
         }
 
         static boolean isInside(int part, int code) {
@@ -945,7 +943,7 @@ public final class Wordnet {
             if (many != length(other)) {
                 return false;
             }
-            int unlike = bits(code) ^ bits(other);
+            int unlike = code - FIRST_CODES[many] ^ other - FIRST_CODES[many];
             for (int place = 0; place < many; place++) {
                 if (!isIn(gaps, place) && (unlike >> 2 * (many - 1 - place) & 3) != 0) {
                     return false;
@@ -967,7 +965,7 @@ public final class Wordnet {
         /** The one of these words that has so many others of them ahead: gaps count up like digits. */
         static int filled(int code, int gaps, int nth) {
             int many = length(code);
-            int bits = bits(code);
+            int bits = code - FIRST_CODES[many];
             int rest = nth;
             for (int shift = 0; shift < 2 * many; shift += 2) {
                 if (isIn(gaps, many - 1 - shift / 2)) {
@@ -990,8 +988,8 @@ public final class Wordnet {
         int between(int code, int other) {
             int many = Code.length(code);
             int across = Code.length(other);
-            int down = Code.bits(code);
-            int along = Code.bits(other);
+            int down = code - FIRST_CODES[many];
+            int along = other - FIRST_CODES[across];
             for (int k = 0; k <= across; k++) {
                 row[k] = k;
             }
@@ -1063,7 +1061,7 @@ public final class Wordnet {
         }
 
         int lettersBehind(int code) {
-            if (!isBeginning(code)) {
+            if (code != 0 && starting(code) == 0) {
                 return NONE;
             }
             int set = 0;
