@@ -485,12 +485,12 @@ public final class Wordnet {
     public int falls(int net, int code) throws IndexOutOfBoundsException, IllegalArgumentException {
         Shelf shelf = shelfOf(net);
         demandCode(code);
-        if (!shelf.isBeginning(code)) {
+        if (shelf.starting(code) == 0) {
             return NONE;
         }
         for (int many = Code.length(code) - 1; many >= 0; many--) {
             int tail = Code.tail(code, many);
-            if (shelf.isBeginning(tail)) {
+            if (shelf.starting(tail) > 0) {
                 return tail;
             }
         }
@@ -1056,10 +1056,7 @@ public final class Wordnet {
             return ahead(seat + Code.span(code)) - ahead(seat);
         }
 
-        boolean isBeginning(int code) {
-            return code == 0 || starting(code) > 0;
-        }
-
+        /** Without words the empty text is a BEGINNING all the same. */
         int lettersBehind(int code) {
             if (code != 0 && starting(code) == 0) {
                 return NONE;

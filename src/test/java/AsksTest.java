@@ -64,6 +64,13 @@ public final class AsksTest {
         CHECK.same("below a word itself", x.below(0, 27), 1);
         CHECK.same("below none", x.below(0, 3), 0);
         CHECK.same("below without words", x.below(1, 0), 0);
+        for (String word : new String[] {"aaaaaa", "addddd", "aadddd", "aaaddd", "abdddd", "dddddd"}) {
+            Wordnet y = Check.with(word);
+            for (int many = 0; many <= 6; many++) {
+                CHECK.same("below " + word.substring(0, many), y.below(0, Check.code(word.substring(0, many))), 1);
+            }
+            CHECK.same("below, one beside " + word, y.below(0, Check.code(word.substring(0, 5) + "b")), 0);
+        }
         netAndCode("below", x, net -> x.below(net, 0), code -> x.below(0, code));
         CHECK.outOfBounds("below of no net and no code", x, () -> x.below(-1, -1));
     }

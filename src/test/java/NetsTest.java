@@ -185,6 +185,12 @@ public final class NetsTest {
         CHECK.same("alike without words", x.alike(0, 2), true);
         x.tell(0, 0);
         CHECK.same("the empty word and none", x.alike(0, 2), false);
+        for (String letter : new String[] {"a", "b", "c", "d"}) {
+            Wordnet y = Check.with("a", "b", "c", "d");
+            y.copy(1, 0);
+            y.take(1, Check.code(letter));
+            CHECK.same("not alike by the line of " + letter, y.alike(0, 1), false);
+        }
         CHECK.noSuchNet("alike", x, net -> x.alike(net, 0));
         CHECK.noSuchNet("alike of other", x, other -> x.alike(0, other));
     }

@@ -70,6 +70,11 @@ public final class PackTest {
         CHECK.same("unpack a poked one", x.unpack(2), 3);
         CHECK.same("unpacked a poked one", Check.all(x, 2), "- a b");
         CHECK.same("unpack leaves it loose", x.ofNet(2, 3), 0);
+        Wordnet y = Check.with("a", "b", "ca", "cb");
+        y.pack(0);
+        y.poke(5, 0);
+        CHECK.same("unpack behind a text without words", y.unpack(0), 3);
+        CHECK.same("unpacked behind a text without words", Check.all(y, 0), "b ca cb");
         x.poke(0, 0);
         x.poke(1, -1);
         x.poke(2, -1);
@@ -160,6 +165,9 @@ public final class PackTest {
         x.poke(5, -1);
         CHECK.same("ofPack 1 at a mark", x.ofPack(1), 5);
         CHECK.same("ofPack 2 with a mark", x.ofPack(2), 10);
+        x.poke(0, -1);
+        CHECK.same("ofPack 1 at the beginning", x.ofPack(1), 0);
+        CHECK.same("ofPack 2 with the first mark", x.ofPack(2), 11);
         CHECK.onlyFrom("ofPack", x, 0, 2, x::ofPack);
     }
 }

@@ -86,6 +86,9 @@ public final class TextTest {
             String got = x.match(0, nth, 0) + " " + x.match(0, nth, 1) + " " + Check.word(x.match(0, nth, 2));
             CHECK.same("match " + nth, got, due[nth]);
         }
+        Check.tell(x, 2, "c", "cb");
+        CHECK.same("match of one letter at the beginning", x.match(2, 0, 2), 3);
+        CHECK.same("match of two letters at the beginning", x.match(2, 1, 0), 0);
         for (int what = 0; what <= 2; what++) {
             CHECK.same("match 5, " + what, x.match(0, 5, what), -1);
             CHECK.same("match of another net, " + what, x.match(1, 0, what), -1);
