@@ -26,7 +26,6 @@ public final class Wordnet {
     private static final int[] SPANS = {5461, 1365, 341, 85, 21, 5, 1};
 
     private static final int CODE_OF_A = 1;
-    private static final int CODE_OF_B = 2;
     private static final int CODE_OF_AB = 6;
     private static final int CODE_OF_ABC = 27;
 

@@ -236,7 +236,7 @@ public final class AsksTest {
         return out.toString();
     }
 
-    /** LEAST: b and ca have the ends of c's b; FIRST BEGINNINGS are those with the fewest LETTERS. */
+    /** A FIRST BEGINNING has the fewest LETTERS: so c, not ab, tells the number of the words' STATE. */
     private static void state() {
         Wordnet x = Check.with("ab", "bb", "c");
         String[] asked = {"", "a", "b", "c", "ab", "bb", "d", "ba", "dddddd"};

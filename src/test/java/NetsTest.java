@@ -5,6 +5,7 @@ public final class NetsTest {
     public static void main(String[] args) {
         leastAndLoose();
         leastStays();
+        leastOfManyNets();
         mix();
         mixTooMany();
         copy();
@@ -50,6 +51,19 @@ public final class NetsTest {
         x.fill(0, 5, 3);
         x.prune(0, 1);
         CHECK.same("filled and pruned: least", x.ofNet(0, 3), 1);
+    }
+
+    /** One object that had many nets before has to answer as a new one that has just this net. */
+    private static void leastOfManyNets() {
+        Wordnet x = new Wordnet();
+        for (int k = 0; k < 120; k++) {
+            Wordnet y = new Wordnet();
+            x.clear(0);
+            x.sow(0, 1365 + k * 7, 89 + k, 60);
+            y.sow(0, 1365 + k * 7, 89 + k, 60);
+            CHECK.same("least states of net " + k, x.ofNet(0, 4), y.ofNet(0, 4));
+            CHECK.same("a state of net " + k, x.state(0, 1), y.state(0, 1));
+        }
     }
 
     private static Wordnet twoNets() {
