@@ -69,7 +69,21 @@ final class Check {
         return code == 0 ? "-" : out.reverse().toString();
     }
 
-    private static Object outcome(Call call) {
+    /** All that can be asked of an object in some 60 calls, so that no change goes unseen. */
+    static String whole(Wordnet x) {
+        StringBuilder out = new StringBuilder();
+        for (int net = 0; net < 3; net++) {
+            out.append(x.ofNet(net, 3)).append(':');
+            for (int from = 0; from < x.ofNet(net, 0); from += 20) {
+                out.append(x.words(net, from, 20)).append(' ');
+            }
+        }
+        out.append('/').append(list(x)).append('/').append(pack(x)).append('/').append(x.text());
+        out.append('/').append(x.cursor(0)).append(' ').append(x.cursor(1));
+        return out.append('/').append(x.digest()).toString();
+    }
+
+    static Object outcome(Call call) {
         try {
             return call.answer();
         } catch (RuntimeException e) {
@@ -90,6 +104,13 @@ final class Check {
         long before = x.digest();
         same(what, outcome(call), due);
         same("digest() behind " + what, x.digest(), before);
+    }
+
+    /** A call that comes to nothing, or only asks, changes nothing. */
+    void unchanged(String what, Wordnet x, Object due, Call call) {
+        String before = whole(x);
+        same(what, outcome(call), due);
+        same("the whole behind " + what, whole(x), before);
     }
 
     void outOfBounds(String what, Wordnet x, Call call) {
