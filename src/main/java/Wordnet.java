@@ -20,8 +20,8 @@ public final class Wordnet {
     private static final int BEGINNINGS = 1 + WORDS * LONGEST;
     private static final int NUMBERS_OF_STATE = 1 + LETTERS;
 
-    /** The first CODE of the words with so many LETTERS; one entry more, so that each has an end. */
-    private static final int[] FIRST_CODES = {0, 1, 5, 21, 85, 341, 1365, 5461};
+    /** The first CODE of the words with so many LETTERS. */
+    private static final int[] FIRST_CODES = {0, 1, 5, 21, 85, 341, 1365};
     /** How many words of all that there can be begin with a text of so many LETTERS. */
     private static final int[] SPANS = {5461, 1365, 341, 85, 21, 5, 1};
 

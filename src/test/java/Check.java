@@ -39,7 +39,8 @@ final class Check {
     /** All words of a net, told as words() does, by RANK and one by one. */
     static String all(Wordnet x, int net) {
         List<String> words = new ArrayList<>();
-        for (int rank = 0; rank < x.ofNet(net, 0); rank++) {
+        int many = x.ofNet(net, 0);
+        for (int rank = 0; rank < many; rank++) {
             words.add(x.words(net, rank, 1));
         }
         return String.join(" ", words);
@@ -47,7 +48,8 @@ final class Check {
 
     static String list(Wordnet x) {
         List<String> words = new ArrayList<>();
-        for (int nth = 0; nth < x.ofList(0); nth++) {
+        int many = x.ofList(0);
+        for (int nth = 0; nth < many; nth++) {
             words.add(word(x.listed(nth)));
         }
         return String.join(" ", words);
@@ -55,7 +57,8 @@ final class Check {
 
     static String pack(Wordnet x) {
         List<String> numbers = new ArrayList<>();
-        for (int place = 0; place < x.ofPack(0); place++) {
+        int many = x.ofPack(0);
+        for (int place = 0; place < many; place++) {
             numbers.add(String.valueOf(x.packed(place)));
         }
         return String.join(" ", numbers);
@@ -69,12 +72,13 @@ final class Check {
         return code == 0 ? "-" : out.reverse().toString();
     }
 
-    /** All that can be asked of an object in some 60 calls, so that no change goes unseen. */
+    /** All that an object holds, in few calls: so that no change goes unseen, and its 512 calls are not used up. */
     static String whole(Wordnet x) {
         StringBuilder out = new StringBuilder();
         for (int net = 0; net < 3; net++) {
             out.append(x.ofNet(net, 3)).append(':');
-            for (int from = 0; from < x.ofNet(net, 0); from += 20) {
+            int many = x.ofNet(net, 0);
+            for (int from = 0; from < many; from += 20) {
                 out.append(x.words(net, from, 20)).append(' ');
             }
         }

@@ -37,6 +37,7 @@ public final class DescriptionTest {
         pack();
         outOfPlace();
         firstFault();
+        longTextBehindManyWords();
         sevenLetters();
         manyWords();
         textsThatAreRead();
@@ -467,6 +468,20 @@ public final class DescriptionTest {
         CHECK.same("a place goes ahead of both", y.unpack(1), -130);
     }
 
+    /** The 256 words begin with "a", the text of seven LETTERS is behind all of them by ORDER. */
+    private static void longTextBehindManyWords() {
+        Wordnet x = Check.with("aaaaa", "dddddd");
+        x.pack(0);
+        for (String beginning : new String[] {"a", "aa", "aaa", "aaaa"}) {
+            for (int letter = 0; letter < 4; letter++) {
+                x.poke(5 * x.state(0, code(beginning)) + 1 + letter, x.state(0, code(beginning + "a")));
+            }
+        }
+        CHECK.same("257 words", x.unpack(1), -5);
+        x.poke(5 * x.state(0, 5460) + 4, 0);
+        CHECK.same("257 words, and then seven letters", x.unpack(1), -6);
+    }
+
     private static void sevenLetters() {
         Wordnet x = Check.with("dddddd", "a");
         x.pack(0);
@@ -583,7 +598,28 @@ public final class DescriptionTest {
         CHECK.same("nobody knocked at first", x.knock(), 1);
     }
 
+    private static void cursorStays(String what, Call change) {
+        Wordnet x = Check.with("ab", "abc", "ca");
+        Check.tell(x, 1, "dd");
+        x.pack(1);
+        x.step(0);
+        x.step(1);
+        change.on(x);
+        CHECK.same("where the cursor is behind " + what, x.cursor(0) + " " + x.cursor(1) + " " + x.cursor(2), "0 6 2");
+        CHECK.same("no beginning behind " + what, x.cursor(3) + " " + x.cursor(4), "0 0");
+        CHECK.same("step behind " + what, x.step(2), -1);
+        CHECK.same("back behind " + what, x.back() + " " + x.cursor(1), "1 1");
+    }
+
     private static void textOfTheCursorMayBecomeNone() {
+        cursorStays("take", x -> x.take(0, 6) && x.take(0, 27));
+        cursorStays("prune", x -> x.prune(0, 1));
+        cursorStays("clear", x -> x.clear(0));
+        cursorStays("mix by 1", x -> x.mix(0, 1, 1));
+        cursorStays("mix by 2", x -> x.mix(0, 0, 2));
+        cursorStays("copy", x -> x.copy(0, 1));
+        cursorStays("turn", x -> x.turn(0));
+        cursorStays("unpack", x -> x.unpack(0));
         Wordnet x = Check.with("ab", "abc");
         x.step(0);
         x.step(1);

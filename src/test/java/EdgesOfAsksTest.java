@@ -15,6 +15,7 @@ public final class EdgesOfAsksTest {
         next();
         nextOfOne();
         letters();
+        lettersOfSix();
         firstLetter();
         lettersBetween();
         words();
@@ -189,6 +190,27 @@ public final class EdgesOfAsksTest {
         CHECK.same("the letter behind five", x.letters(0, code("dddda")), 2);
         CHECK.same("no beginning", x.letters(0, 5) + " " + x.letters(0, 5460), "-1 -1");
         CHECK.same("the empty text is a beginning always", x.letters(1, 0) + " " + x.letters(1, 1), "0 -1");
+    }
+
+    /** No text of seven LETTERS is a BEGINNING, not even one with a CODE just behind the last one. */
+    private static void lettersOfSix() {
+        for (String word : new String[] {"aaaaaa", "aaaaab", "dddddd", "ddddda", "abcdab"}) {
+            Wordnet x = Check.with(word, "");
+            for (int letter = 0; letter < 4; letter++) {
+                x.tell(0, code(word.substring(0, 5)) * 4 + letter + 1);
+            }
+            int six = code(word);
+            CHECK.same("letters of " + word, x.letters(0, six), 0);
+            CHECK.same("letters of what it begins with", x.letters(0, (six - 1) / 4), 15);
+            CHECK.same("the first letter of " + word, x.firstLetter(0, six, false) + " " + x.firstLetter(0, six, true), "-9 -9");
+            CHECK.same("letters between of " + word, x.lettersBetween(0, six, 0, 4), 0);
+            for (char sign : word.toCharArray()) {
+                x.step(sign - 'a');
+            }
+            for (int letter = 0; letter < 4; letter++) {
+                CHECK.same("a seventh letter, " + letter, x.step(letter) + " " + x.cursor(1) + " " + x.cursor(4), "-1 " + six + " 1");
+            }
+        }
     }
 
     /** "EMPTY, if there are none, or it is no BEGINNING". */
@@ -548,14 +570,20 @@ public final class EdgesOfAsksTest {
         x.sow(2, 1365, 34, 60);
         x.sow(2, 1365 + 60 * 34, 34, 60);
         CHECK.unchanged("with three full nets", x, true, x::isSound);
-        x.gather(0, 0, 0, 0);
+        x.enter(0);
+        x.step(0);
+        x.clear(0);
+        CHECK.same("with a cursor at no beginning", x.cursor(4) + " " + x.isSound(), "0 true");
+        Wordnet y = full();
+        y.gather(0, 0, 0, 0);
         for (int k = 0; k < 10; k++) {
-            x.say(5460);
+            y.say(5460);
         }
-        x.pack(1);
-        x.poke(0, 5);
-        CHECK.unchanged("with all of it full", x, true, x::isSound);
-        CHECK.unchanged("with nothing", new Wordnet(), true, () -> new Wordnet().isSound());
+        y.pack(1);
+        y.poke(0, 5);
+        CHECK.unchanged("with a full list and text, and a number out of place", y, true, y::isSound);
+        Wordnet z = new Wordnet();
+        CHECK.unchanged("with nothing", z, true, z::isSound);
     }
 
     /** "which wraps around as a 64-bit integer": 117 numbers and 5305 are far more than 64 bits hold. */

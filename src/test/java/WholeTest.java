@@ -7,6 +7,7 @@ public final class WholeTest {
         digestOfSome();
         digestTellsChanges();
         sound();
+        soundWhereEndsLookAlike();
         bothChangeNothing();
         CHECK.end();
     }
@@ -75,6 +76,16 @@ public final class WholeTest {
         x.step(0);
         x.clear(0);
         CHECK.same("a bad pack and a lost cursor are sound", x.isSound(), true);
+    }
+
+    /** 31 * 1 + 35 is 31 * 2 + 4: a sum of the CODES of ENDS by 31 can't tell these of "a" and "c" from those of "b". */
+    private static void soundWhereEndsLookAlike() {
+        Wordnet x = Check.with("aa", "aadc", "bb", "bd", "ca", "cadc");
+        CHECK.same("ends that look alike", x.isSound(), true);
+        CHECK.same("least states with such ends", x.ofNet(0, 4), 6);
+        Check.tell(x, 0, "da", "dadc");
+        Check.tell(x, 1, "ab", "ad", "ba", "badc", "cb", "cd", "da", "dadc");
+        CHECK.same("more ends that look alike", x.isSound(), true);
     }
 
     private static void bothChangeNothing() {
