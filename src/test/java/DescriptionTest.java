@@ -36,6 +36,7 @@ public final class DescriptionTest {
         list();
         pack();
         outOfPlace();
+        outOfPlaceInTheLargestPack();
         firstFault();
         longTextBehindManyWords();
         sevenLetters();
@@ -371,12 +372,16 @@ public final class DescriptionTest {
     // ---- 3. Ways to choose
 
     private static void extraThatDoesNotMatter() {
-        Wordnet x = Check.with("", "a", "ab", "ba", "bab");
         for (int extra = 0; extra <= 63; extra++) {
+            Wordnet x = Check.with("", "a", "ab", "ba", "bab");
             CHECK.same("those that begin with a, " + extra, x.count(0, 0, 1, extra), 2);
             CHECK.same("those that end with a, " + extra, x.count(0, 1, 1, extra), 2);
             CHECK.same("those in which a stands, " + extra, x.count(0, 4, 1, extra), 4);
+            CHECK.same("the list of those that begin with a, " + extra, x.gather(0, 0, 1, extra) + " " + Check.list(x), "2 a ab");
+            CHECK.same("the list of those that end with a, " + extra, x.gather(0, 1, 1, extra) + " " + Check.list(x), "2 a ba");
+            CHECK.same("the list of those in which a stands, " + extra, x.gather(0, 4, 1, extra) + " " + Check.list(x), "4 a ab ba bab");
         }
+        Wordnet x = Check.with("", "a", "ab", "ba", "bab");
         CHECK.same("all begin with the empty one", x.count(0, 0, 0, 0), 5);
         CHECK.same("all end with the empty one", x.count(0, 1, 0, 0), 5);
         CHECK.same("the empty one stands in all", x.count(0, 4, 0, 0), 5);
@@ -441,6 +446,23 @@ public final class DescriptionTest {
                 CHECK.same("no fault by place: " + number + " at " + place, x.unpack(1) > -100, true);
             }
         }
+    }
+
+    /** 445 STATES: all texts of up to three LETTERS, and 120 of four, of five and of six LETTERS each. */
+    private static void outOfPlaceInTheLargestPack() {
+        Wordnet x = new Wordnet();
+        x.sow(0, 1365, 34, 60);
+        x.sow(0, 1365 + 60 * 34, 34, 60);
+        CHECK.same("the largest pack", x.pack(0), 5 * 445);
+        for (int place : new int[] {2224, 2220, 2000, 1801, 1024, 256, 4, 1}) {
+            int highest = place % 5 == 0 ? 1 : 444;
+            int before = x.poke(place, highest);
+            CHECK.same("in place, at " + place + " of many", x.ofPack(1), -1);
+            x.poke(place, highest + 1);
+            CHECK.same("out of place, at " + place + " of many", x.ofPack(1) + " " + x.unpack(1), place + " " + (-100 - place));
+            x.poke(place, before);
+        }
+        CHECK.same("all in place again", x.unpack(1) + " " + x.parting(0, 1), "120 -1");
     }
 
     private static void firstFault() {

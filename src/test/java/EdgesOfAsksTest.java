@@ -42,7 +42,9 @@ public final class EdgesOfAsksTest {
         ofPack();
         cursor();
         isSound();
+        isSoundWithWordsOfSix();
         digestWrapsAround();
+        digestOfManyKnocks();
         CHECK.end();
     }
 
@@ -586,6 +588,20 @@ public final class EdgesOfAsksTest {
         CHECK.unchanged("with nothing", z, true, z::isSound);
     }
 
+    private static void isSoundWithWordsOfSix() {
+        for (int net = 0; net < 3; net++) {
+            Wordnet x = new Wordnet();
+            Check.tell(x, net, "dddddd", "aaaaaa", "abcdab", "");
+            x.gather(net, 0, 0, 0);
+            x.enter(net);
+            for (int letters = 1; letters <= 6; letters++) {
+                x.step(3);
+                CHECK.unchanged("net " + net + ", a cursor at " + letters + " letters", x, true, x::isSound);
+            }
+            CHECK.same("at a word of six", x.cursor(2) + " " + x.cursor(3), "6 1");
+        }
+    }
+
     /** "which wraps around as a 64-bit integer": 117 numbers and 5305 are far more than 64 bits hold. */
     private static void digestWrapsAround() {
         java.math.BigInteger d = java.math.BigInteger.valueOf(5305);
@@ -597,5 +613,17 @@ public final class EdgesOfAsksTest {
         }
         CHECK.same("it wraps", d.bitLength() > 64, true);
         CHECK.same("digest of a new object", new Wordnet().digest(), d.longValue());
+    }
+
+    /** Behind how many KNOCKED there is one number more. */
+    private static void digestOfManyKnocks() {
+        Wordnet x = full();
+        long before = x.digest();
+        for (int knocks = 1; knocks <= 500; knocks++) {
+            x.knock();
+            if (knocks % 100 == 0) {
+                CHECK.same("digest of " + knocks + " knocks", x.digest() - before, 31L * knocks);
+            }
+        }
     }
 }

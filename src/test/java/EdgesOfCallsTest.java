@@ -95,6 +95,8 @@ public final class EdgesOfCallsTest {
         Wordnet y = Check.with("ab");
         CHECK.same("a beginning is none of the words", y.take(0, 1) + " " + y.take(0, 0), "false false");
         CHECK.same("take the only one", y.take(0, 6) + " " + y.take(0, 6), "true false");
+        Wordnet z = Check.with("");
+        CHECK.same("take the empty word, the only one", z.take(0, 0) + " " + z.take(0, 0) + " " + z.ofNet(0, 0), "true false 0");
     }
 
     private static void sow() {
