@@ -1,6 +1,6 @@
 /**
- * Every ask that takes a CODE, for every CODE there is, of nets of many kinds, each answer held against the Model:
- * so that no single word, length or place is answered otherwise than the others.
+ * The asks that take a CODE, for every CODE there is (those that measure distances for some), of nets of many kinds,
+ * each answer held against the Model: so that no single word, length or place is answered otherwise than the others.
  */
 public final class EachCodeTest {
     private static final int CODES = 5461;
